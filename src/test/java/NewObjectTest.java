@@ -1,6 +1,6 @@
 /** Promise 1: a new object, for lanes and delays inside, at and outside their ranges. */
 public final class NewObjectTest {
-    private static final int[] SIZES = {Integer.MIN_VALUE, -1, 0, 1, 2, 3, 4, 5, 6, 7, 1000, Integer.MAX_VALUE};
+    private static final int[] SIZES = {Integer.MIN_VALUE, -1, 0, 1, 2, 3, 4, 5, 6, 7, 1000, 1000000, Integer.MAX_VALUE};
 
     public static void main(String[] args) {
         for (int lanes : SIZES) {

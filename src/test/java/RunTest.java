@@ -172,24 +172,22 @@ public final class RunTest {
 
     private static void lengthCutsVectors(int lanes, int delay) {
         for (int op = ChainedVectorUnit.VADD; op <= ChainedVectorUnit.VGATHER; op++) {
-            for (int length = 0; length <= 16; length += 8) {
-                ChainedVectorUnit unit = withCells(lanes, delay);
-                setScalar(unit, 1, 1);
-                setLength(unit, length);
-                for (int i = 0; i < 16; i++) {
-                    unit.setElement(0, i, -5);
-                }
-                one(unit, op, 0, 1, 1);
-                int kept = 0;
-                for (int i = 0; i < 16; i++) {
-                    boolean stored = unit.memory(i + 1) == -5;
-                    kept += (op == ChainedVectorUnit.VSTORE ? !stored : unit.element(0, i) == -5) ? 1 : 0;
-                }
-                Check.due("op " + op + " at L = " + length + " leaves", kept, 16 - length);
-                int edge = op == ChainedVectorUnit.VSTORE ? unit.memory(length + 1) : unit.element(0, length);
-                int due = op == ChainedVectorUnit.VSTORE ? 501 + length : length < 16 ? -5 : 0;
-                Check.due("op " + op + " at L = " + length + ", the first one left", edge, due);
+            for (int length = 0; length <= 16; length++) {
+                lengthCuts(withCells(lanes, delay), op, length);
             }
+        }
+    }
+
+    private static void lengthCuts(ChainedVectorUnit unit, int op, int length) {
+        for (int i = 0; i < 16; i++) {
+            unit.setElement(0, i, -5);
+        }
+        setScalar(unit, 1, 1);
+        setLength(unit, length);
+        one(unit, op, 0, 1, 1);
+        for (int i = 0; i < 16; i++) {
+            boolean kept = op == ChainedVectorUnit.VSTORE ? unit.memory(1 + i) == 501 + i : unit.element(0, i) == -5;
+            Check.due("op " + op + " at L = " + length + " keeps place " + i, kept, i >= length);
         }
     }
 
