@@ -26,31 +26,36 @@ public final class FaceTest {
         CONSTANTS.put("FULL", -2);
     }
 
-    public static void main(String[] args) throws IllegalAccessException {
-        Class<?> type = ChainedVectorUnit.class;
-        Check.due("public and final", type.getModifiers(), Modifier.PUBLIC | Modifier.FINAL);
-        Check.due("nested classes", type.getDeclaredClasses().length, 0);
-        constructors(type);
-        methods(type);
-        fields(type);
+    private static final Class<?> TYPE = ChainedVectorUnit.class;
+
+    public static void main(String[] args) {
+        Check.once("The public face: the class", FaceTest::type);
+        Check.once("The public face: the constructor", FaceTest::constructors);
+        Check.once("The public face: the methods", FaceTest::methods);
+        Check.once("The public face: the constants", FaceTest::constants);
         Check.end();
+    }
+
+    private static void type() {
+        Check.due("public and final", TYPE.getModifiers(), Modifier.PUBLIC | Modifier.FINAL);
+        Check.due("nested classes", TYPE.getDeclaredClasses().length, 0);
     }
 
     private static boolean isPrivate(Member member) {
         return Modifier.isPrivate(member.getModifiers());
     }
 
-    private static void constructors(Class<?> type) {
-        Constructor<?>[] all = type.getDeclaredConstructors();
+    private static void constructors() {
+        Constructor<?>[] all = TYPE.getDeclaredConstructors();
         Check.due("constructors", all.length, 1);
         Check.due("constructor is public", Modifier.isPublic(all[0].getModifiers()), true);
         Check.due("constructor takes two ints", Arrays.toString(all[0].getParameterTypes()).equals("[int, int]"), true);
     }
 
-    private static void methods(Class<?> type) {
+    private static void methods() {
         Set<String> seen = new TreeSet<>();
         Set<String> publicNames = new TreeSet<>();
-        for (Method method : type.getDeclaredMethods()) {
+        for (Method method : TYPE.getDeclaredMethods()) {
             if (!isPrivate(method)) {
                 Check.due(method + " is public alone", method.getModifiers(), Modifier.PUBLIC);
                 publicNames.add(method.getName());
@@ -58,22 +63,30 @@ public final class FaceTest {
             }
         }
         Check.due("the public methods are " + seen, seen.equals(METHODS), true);
-        for (Method method : type.getDeclaredMethods()) {
+        for (Method method : TYPE.getDeclaredMethods()) {
             boolean clash = isPrivate(method) && publicNames.contains(method.getName());
             Check.due(method + " bears a public name", clash, false);
         }
     }
 
-    private static void fields(Class<?> type) throws IllegalAccessException {
+    private static void constants() {
         Map<String, Integer> seen = new TreeMap<>();
-        for (Field field : type.getDeclaredFields()) {
+        for (Field field : TYPE.getDeclaredFields()) {
             if (!isPrivate(field)) {
                 Check.due(field + " is a public constant", field.getModifiers(),
                     Modifier.PUBLIC | Modifier.STATIC | Modifier.FINAL);
                 Check.due(field + " is an int", field.getType() == int.class, true);
-                seen.put(field.getName(), field.getInt(null));
+                seen.put(field.getName(), valueOf(field));
             }
         }
         Check.due("the constants are " + seen, seen.equals(CONSTANTS), true);
+    }
+
+    private static int valueOf(Field field) {
+        try {
+            return field.getInt(null);
+        } catch (IllegalAccessException hidden) {
+            throw new IllegalStateException(hidden);
+        }
     }
 }

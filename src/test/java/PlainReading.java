@@ -24,9 +24,9 @@ final class PlainReading {
         for (int v = 0; v < 4; v++) {
             System.arraycopy(vectors[v], 0, seen, v * 16, 16);
         }
-        System.arraycopy(scalars, 0, seen, 64, 4);
-        System.arraycopy(cells, 0, seen, 68, 64);
-        seen[132] = length;
+        System.arraycopy(scalars, 0, seen, State.SCALAR_0, 4);
+        System.arraycopy(cells, 0, seen, State.CELL_0, 64);
+        seen[State.LENGTH] = length;
         return seen;
     }
 

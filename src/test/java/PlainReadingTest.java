@@ -9,17 +9,11 @@ public final class PlainReadingTest {
     private static final int[] STEPS = {0, 1, -1, 2, 4, 16, 32, 63, 64, Integer.MAX_VALUE, Integer.MIN_VALUE};
     private static final int[] NUMBERS = {0, 1, 2, 3, 5, 8, 15, 16, 17, 60, -1, -7, Integer.MAX_VALUE};
 
-    // A fixed row of numbers, so that every run of the test is the same.
-    private long seed = 20261115;
+    private final Row row = new Row(20261115);
 
     public static void main(String[] args) {
-        new PlainReadingTest().compareAll();
+        Check.once("what running it leaves is what this plain reading gives", () -> new PlainReadingTest().compareAll());
         Check.end();
-    }
-
-    private int below(int bound) {
-        seed = seed * 6364136223846793005L + 1442695040888963407L;
-        return (int) ((seed >>> 33) % bound);
     }
 
     private void compareAll() {
@@ -34,7 +28,7 @@ public final class PlainReadingTest {
         PlainReading plain = new PlainReading();
         fill(unit, plain);
         for (int round = 0; round < RUNS_OF_AN_OBJECT; round++) {
-            int size = round == 0 ? 16 : below(17);
+            int size = round == 0 ? 16 : row.below(17);
             for (int n = 1; n <= size; n++) {
                 emitBoth(unit, plain, n);
             }
@@ -46,26 +40,26 @@ public final class PlainReadingTest {
     private void fill(ChainedVectorUnit unit, PlainReading plain) {
         for (int v = 0; v < 4; v++) {
             for (int i = 0; i < 16; i++) {
-                plain.vectors[v][i] = below(200) - 100;
+                plain.vectors[v][i] = row.below(200) - 100;
                 unit.setElement(v, i, plain.vectors[v][i]);
             }
         }
         for (int cell = 0; cell < 64; cell++) {
-            plain.cells[cell] = below(2000) - 1000;
+            plain.cells[cell] = row.below(2000) - 1000;
             unit.setMemory(cell, plain.cells[cell]);
         }
     }
 
     private void emitBoth(ChainedVectorUnit unit, PlainReading plain, int n) {
-        int op = below(13);
-        if (op == ChainedVectorUnit.SLEN && below(2) == 0) {
+        int op = row.below(13);
+        if (op == ChainedVectorUnit.SLEN && row.below(2) == 0) {
             // Short lengths end most clashes, so they are kept rarer than the other instructions.
             op = ChainedVectorUnit.VADDS;
         }
-        int x = below(4);
-        int y = op == ChainedVectorUnit.SSET ? NUMBERS[below(NUMBERS.length)] : below(4);
+        int x = row.below(4);
+        int y = op == ChainedVectorUnit.SSET ? row.oneOf(NUMBERS) : row.below(4);
         boolean steps = op == ChainedVectorUnit.VLOAD || op == ChainedVectorUnit.VSTORE;
-        int z = steps ? STEPS[below(STEPS.length)] : below(4);
+        int z = steps ? row.oneOf(STEPS) : row.below(4);
         Check.due("emit", unit.emit(op, x, y, z), n);
         plain.step(op, x, y, z);
     }

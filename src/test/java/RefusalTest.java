@@ -1,64 +1,95 @@
+import java.util.function.ToIntFunction;
+
 /** Promise 11: a refused call changes nothing, neither the state nor the program. */
-public final class RefusalTest {
+public final class RefusalTest implements Ops {
     public static void main(String[] args) {
-        badEmits();
-        fullEmits();
-        refusedSets();
+        refused("op outside 0..12, too small", BAD, unit -> unit.emit(-1, 0, 0, 0));
+        refused("op outside 0..12, too large", BAD, unit -> unit.emit(13, 0, 0, 0));
+        refused("x outside 0..3, too small", BAD, unit -> unit.emit(SSET, -1, 5, 0));
+        refused("x outside 0..3, too large", BAD, unit -> unit.emit(SLEN, 4, 0, 0));
+        refused("y outside 0..3, too small", BAD, unit -> unit.emit(VLOAD, 0, -1, 0));
+        refused("y outside 0..3, too large", BAD, unit -> unit.emit(VSUM, 0, 4, 0));
+        refused("z outside 0..3, too small", BAD, unit -> unit.emit(SADD, 0, 0, -1));
+        refused("z outside 0..3, too large", BAD, unit -> unit.emit(VADDS, 0, 0, 4));
+        refused("setElement, v too small", 0, unit -> unit.setElement(-1, 0, 9) ? 1 : 0);
+        refused("setElement, v too large", 0, unit -> unit.setElement(4, 0, 9) ? 1 : 0);
+        refused("setElement, i too small", 0, unit -> unit.setElement(1, -1, 9) ? 1 : 0);
+        refused("setElement, i too large", 0, unit -> unit.setElement(0, 16, 9) ? 1 : 0);
+        refused("setMemory, cell too small", 0, unit -> unit.setMemory(-1, 9) ? 1 : 0);
+        refused("setMemory, cell too large", 0, unit -> unit.setMemory(64, 9) ? 1 : 0);
+        Check.onEach("a call that is refused changes nothing: FULL", RefusalTest::fullChangesNothing);
+        Check.onEach("a call that is refused changes nothing: FULL for a wrong op", RefusalTest::fullAndWrong);
         Check.end();
     }
 
-    private static ChainedVectorUnit filled() {
-        ChainedVectorUnit unit = new ChainedVectorUnit(3, 4);
+    private static void refused(String why, int answer, ToIntFunction<ChainedVectorUnit> call) {
+        String sentence = "a call that is refused changes nothing: " + why;
+        Check.onEach(sentence, unit -> withoutAProgram(unit, answer, call));
+        Check.onEach(sentence + ", amid a program", unit -> amidAProgram(unit, answer, call));
+    }
+
+    private static void many(ChainedVectorUnit unit, int answer, ToIntFunction<ChainedVectorUnit> call) {
+        for (int n = 0; n < 20; n++) {
+            Check.due("the refused call", call.applyAsInt(unit), answer);
+        }
+    }
+
+    private static void withoutAProgram(ChainedVectorUnit unit, int answer, ToIntFunction<ChainedVectorUnit> call) {
         State.fill(unit);
-        return unit;
+        many(unit, answer, call);
+        State.same("after refused calls", State.of(unit), State.filled());
+        Check.due("run() of nothing", unit.run(), 0);
+        State.same("after a run of nothing", State.of(unit), State.filled());
     }
 
-    private static void badEmits() {
-        ChainedVectorUnit unit = filled();
-        int[] before = State.filled();
-        Check.due("emit", unit.emit(ChainedVectorUnit.SADD, 0, 1, 2), 1);
-        Check.due("a bad op", unit.emit(13, 0, 0, 0), ChainedVectorUnit.BAD);
-        Check.due("a bad x", unit.emit(ChainedVectorUnit.SSET, 4, 0, 0), ChainedVectorUnit.BAD);
-        Check.due("a bad y", unit.emit(ChainedVectorUnit.VLOAD, 0, -1, 0), ChainedVectorUnit.BAD);
-        Check.due("a bad z", unit.emit(ChainedVectorUnit.VADDS, 0, 0, 4), ChainedVectorUnit.BAD);
-        State.same("after bad emits", State.of(unit), before);
-        Check.due("the next emit", unit.emit(ChainedVectorUnit.SADD, 3, 0, 0), 2);
-        Check.due("run()", unit.run(), 2);
-        before[64] = 71 + 72;
-        before[67] = 2 * (71 + 72);
-        State.same("after the run", State.of(unit), before);
+    private static void amidAProgram(ChainedVectorUnit unit, int answer, ToIntFunction<ChainedVectorUnit> call) {
+        State.fill(unit);
+        int[] due = State.filled();
+        Check.due("the first emit", unit.emit(SADD, 0, 1, 2), 1);
+        Check.due("the second emit", unit.emit(SSET, 1, 4, 0), 2);
+        many(unit, answer, call);
+        State.same("after refused calls", State.of(unit), due);
+        Check.due("the third emit", unit.emit(SADD, 3, 0, 1), 3);
+        Check.due("run()", unit.run(), 3);
+        due[State.SCALAR_0] = 71 + 72;
+        due[State.SCALAR_0 + 1] = 4;
+        due[State.SCALAR_0 + 3] = 71 + 72 + 4;
+        State.same("after the run", State.of(unit), due);
     }
 
-    private static void fullEmits() {
-        ChainedVectorUnit unit = filled();
-        int[] before = State.filled();
+    /** Feeds 16 instructions, each of which shows in scalar 0: an other one in its place would too. */
+    private static void feed(ChainedVectorUnit unit) {
         for (int n = 1; n <= 16; n++) {
-            Check.due("emit", unit.emit(ChainedVectorUnit.SSET, n % 4, n, 0), n);
+            Check.due("emit number " + n, unit.emit(SADD, 0, 0, n % 4), n);
         }
-        for (int n = 0; n < 4; n++) {
-            Check.due("emit to a full program", unit.emit(ChainedVectorUnit.VSUM, n, n, 0), ChainedVectorUnit.FULL);
-        }
-        State.same("after full emits", State.of(unit), before);
-        Check.due("run()", unit.run(), 16);
-        before[64] = 16;
-        before[65] = 13;
-        before[66] = 14;
-        before[67] = 15;
-        State.same("after the run", State.of(unit), before);
     }
 
-    private static void refusedSets() {
-        ChainedVectorUnit unit = filled();
-        int[] before = State.filled();
-        unit.emit(ChainedVectorUnit.SSET, 2, 8, 0);
-        Check.due("setElement(4, 0)", unit.setElement(4, 0, 1), false);
-        Check.due("setElement(0, 16)", unit.setElement(0, 16, 1), false);
-        Check.due("setElement(1, -1)", unit.setElement(1, -1, 1), false);
-        Check.due("setMemory(64)", unit.setMemory(64, 1), false);
-        Check.due("setMemory(-1)", unit.setMemory(-1, 1), false);
-        State.same("after refused sets", State.of(unit), before);
-        Check.due("run()", unit.run(), 1);
-        before[66] = 8;
-        State.same("after the run", State.of(unit), before);
+    private static void fed(ChainedVectorUnit unit) {
+        int[] due = State.filled();
+        State.same("after full emits", State.of(unit), due);
+        Check.due("run()", unit.run(), 16);
+        for (int n = 1; n <= 16; n++) {
+            due[State.SCALAR_0] += due[State.SCALAR_0 + n % 4];
+        }
+        State.same("after the run", State.of(unit), due);
+    }
+
+    private static void fullChangesNothing(ChainedVectorUnit unit) {
+        State.fill(unit);
+        feed(unit);
+        for (int op = VADD; op <= SLEN; op++) {
+            Check.due("emit to a full program", unit.emit(op, 1 + op % 3, 2, 3), FULL);
+        }
+        fed(unit);
+    }
+
+    private static void fullAndWrong(ChainedVectorUnit unit) {
+        State.fill(unit);
+        feed(unit);
+        Check.due("a wrong op to a full program", unit.emit(13, 1, 2, 3), FULL);
+        Check.due("a wrong x to a full program", unit.emit(SSET, 4, 2, 3), FULL);
+        Check.due("a wrong y to a full program", unit.emit(VADD, 1, -1, 3), FULL);
+        Check.due("a wrong z to a full program", unit.emit(VADD, 1, 2, 4), FULL);
+        fed(unit);
     }
 }

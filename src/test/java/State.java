@@ -7,7 +7,10 @@ final class State {
     static final int ELEMENTS = 16;
     static final int SCALARS = 4;
     static final int CELLS = 64;
-    static final int SIZE = VECTORS * ELEMENTS + SCALARS + CELLS + 1;
+    static final int SCALAR_0 = VECTORS * ELEMENTS;
+    static final int CELL_0 = SCALAR_0 + SCALARS;
+    static final int LENGTH = CELL_0 + CELLS;
+    static final int SIZE = LENGTH + 1;
 
     private State() {
     }
