@@ -17,8 +17,8 @@ public final class RefusalTest implements Ops {
         refused("setElement, i too large", 0, unit -> unit.setElement(0, 16, 9) ? 1 : 0);
         refused("setMemory, cell too small", 0, unit -> unit.setMemory(-1, 9) ? 1 : 0);
         refused("setMemory, cell too large", 0, unit -> unit.setMemory(64, 9) ? 1 : 0);
-        Check.onEach("a call that is refused changes nothing: FULL", RefusalTest::fullChangesNothing);
-        Check.onEach("a call that is refused changes nothing: FULL for a wrong op", RefusalTest::fullAndWrong);
+        Check.onEachSize("a call that is refused changes nothing: FULL", RefusalTest::fullChangesNothing);
+        Check.onEachSize("a call that is refused changes nothing: FULL for a wrong op or operand", RefusalTest::fullAndWrong);
         Check.end();
     }
 
@@ -57,39 +57,45 @@ public final class RefusalTest implements Ops {
         State.same("after the run", State.of(unit), due);
     }
 
-    /** Feeds 16 instructions, each of which shows in scalar 0: an other one in its place would too. */
-    private static void feed(ChainedVectorUnit unit) {
+    /** Feeds 16 instructions, each of which shows in scalar s: another one in its place would too. */
+    private static ChainedVectorUnit fed(int lanes, int delay, int s) {
+        ChainedVectorUnit unit = new ChainedVectorUnit(lanes, delay);
+        State.fill(unit);
         for (int n = 1; n <= 16; n++) {
-            Check.due("emit number " + n, unit.emit(SADD, 0, 0, n % 4), n);
+            Check.due("emit number " + n, unit.emit(SADD, s, s, n % 4), n);
         }
+        return unit;
     }
 
-    private static void fed(ChainedVectorUnit unit) {
+    private static void runsAsFed(ChainedVectorUnit unit, int s) {
         int[] due = State.filled();
         State.same("after full emits", State.of(unit), due);
         Check.due("run()", unit.run(), 16);
         for (int n = 1; n <= 16; n++) {
-            due[State.SCALAR_0] += due[State.SCALAR_0 + n % 4];
+            due[State.SCALAR_0 + s] += due[State.SCALAR_0 + n % 4];
         }
         State.same("after the run", State.of(unit), due);
     }
 
-    private static void fullChangesNothing(ChainedVectorUnit unit) {
-        State.fill(unit);
-        feed(unit);
-        for (int op = VADD; op <= SLEN; op++) {
-            Check.due("emit to a full program", unit.emit(op, 1 + op % 3, 2, 3), FULL);
+    private static void fullChangesNothing(int lanes, int delay) {
+        for (int s = 0; s < 4; s++) {
+            ChainedVectorUnit unit = fed(lanes, delay, s);
+            for (int op = VADD; op <= SLEN; op++) {
+                Check.due("emit to a full program", unit.emit(op, (s + 1) % 4, (s + 2) % 4, (s + 3) % 4), FULL);
+            }
+            runsAsFed(unit, s);
         }
-        fed(unit);
     }
 
-    private static void fullAndWrong(ChainedVectorUnit unit) {
-        State.fill(unit);
-        feed(unit);
-        Check.due("a wrong op to a full program", unit.emit(13, 1, 2, 3), FULL);
-        Check.due("a wrong x to a full program", unit.emit(SSET, 4, 2, 3), FULL);
-        Check.due("a wrong y to a full program", unit.emit(VADD, 1, -1, 3), FULL);
-        Check.due("a wrong z to a full program", unit.emit(VADD, 1, 2, 4), FULL);
-        fed(unit);
+    private static void fullAndWrong(int lanes, int delay) {
+        for (int s = 0; s < 4; s++) {
+            ChainedVectorUnit unit = fed(lanes, delay, s);
+            int other = (s + 1) % 4;
+            Check.due("a wrong op to a full program", unit.emit(13, other, other, other), FULL);
+            Check.due("a wrong x to a full program", unit.emit(SSET, 4, other, other), FULL);
+            Check.due("a wrong y to a full program", unit.emit(VADD, other, -1, other), FULL);
+            Check.due("a wrong z to a full program", unit.emit(VADD, other, other, 4), FULL);
+            runsAsFed(unit, s);
+        }
     }
 }
